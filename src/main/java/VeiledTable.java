@@ -292,7 +292,11 @@ public final class VeiledTable {
   }
 
   public int text() {
-    return tape.tell(game.table);
+    final int before = game.table.staged;
+    final int fault = tape.readInto(game.table);
+    if (fault == NONE) return game.table.staged - before;
+    game.table.staged = before;
+    return FAULTS - fault;
   }
 
   public int rack(int r, int n) {
@@ -628,9 +632,19 @@ public final class VeiledTable {
     private int cardsLeft() {
       int left = cards;
       for (int i = 0; i < staged; i++) {
-        if (stages[i].kind.isCard()) left--;
+        if (isCardAt(i)) left--;
       }
       return left;
+    }
+
+    private boolean isCardAt(int i) {
+      final Stage stage = at(i);
+      return stage != null && stage.kind.isCard();
+    }
+
+    private boolean isChanceAt(int i) {
+      final Stage stage = at(i);
+      return stage != null && stage.kind.isChance();
     }
 
     /** Whether stage j is there and a player chooses in it. */
@@ -666,7 +680,7 @@ public final class VeiledTable {
       go(way, j);
       int gone = 0;
       for (int i = 0; i < j; i++) {
-        if (stages[i].kind.isCard()) gone |= 1 << what[i];
+        if (isCardAt(i)) gone |= 1 << what[i];
       }
       return gone;
     }
@@ -729,7 +743,7 @@ public final class VeiledTable {
     int chances(int j) {
       int all = 1;
       for (int i = 0; i < j; i++) {
-        if (stages[i].kind.isChance()) all *= fans[i];
+        if (isChanceAt(i)) all *= fans[i];
       }
       return all;
     }
@@ -1153,7 +1167,7 @@ public final class VeiledTable {
 
     /** The choices that come next in order, if there are any: those of the last set change first. */
     private boolean tryNext(Table table, Sets sets) {
-      for (int set = sets.many - 1; set >= 0; set--) {
+      for (int set = Math.min(sets.many, MAX_TRIED_SETS) - 1; set >= 0; set--) {
         tried[set]++;
         if (tried[set] < table.fans[sets.points[set]]) return true;
         tried[set] = 0;
@@ -1187,27 +1201,19 @@ public final class VeiledTable {
       }
     }
 
-    /** Reads all and puts the stages that it tells: how many; or FAULTS less the fault, and puts none. */
-    int tell(Table table) {
-      final int before = table.staged;
-      final boolean isRight = readAll(table);
-      final int told = table.staged - before;
-      many = 0;
-      if (isRight) return told;
-      table.staged = before;
-      return FAULTS - from;
-    }
-
-    private boolean readAll(Table table) {
+    /** Empties the tape and puts its stages, those ahead of a fault too: the fault, or NONE. */
+    int readInto(Table table) {
       to = 0;
-      // Each statement takes a byte at least.
-      for (int n = 0; n <= MAX_TAPE; n++) {
+      boolean isRight = true;
+      // Each statement takes a byte at least: the sort of its last token ends the loop before.
+      for (int n = 0; n <= MAX_TAPE && isRight; n++) {
         advance();
-        if (!readStatement(table)) return false;
-        if (sort == END) return true;
-        if (sort != SIGN) return false;
+        isRight = readStatement(table);
+        if (sort != SIGN) break;
       }
-      return false;
+      final int fault = isRight && sort == END ? NONE : from;
+      many = 0;
+      return fault;
     }
 
     /** Ends at the token behind it, or at the one that can't stand there. */
@@ -1257,17 +1263,12 @@ public final class VeiledTable {
       to = from;
       value = 0;
       sort = sortAt(from);
-      if (sort == WORD || sort == NUMBER) {
-        while (sortAt(to) == sort) takeByte();
-      } else if (sort != END) {
+      while (to < many && sortAt(to) == sort) {
+        // Above 9 a value doesn't matter: it stays as it is, and never gets too great.
+        if (value <= 9) value = 10 * value + bytes[to] - '0';
         to++;
+        if (sort == SIGN || sort == STRANGE) break;
       }
-    }
-
-    /** Above 9 a number's value doesn't matter: it stays there, and never gets too great. */
-    private void takeByte() {
-      if (value <= 9) value = 10 * value + bytes[to] - '0';
-      to++;
     }
 
     /** The sort of a token that has such a byte. */
