@@ -74,12 +74,14 @@ public final class ModelTest {
   }
 
   public static void main(String[] args) {
+    int first = args.length == 2 ? Integer.parseInt(args[0]) : 1;
+    int last = args.length == 2 ? Integer.parseInt(args[1]) : RUNS;
     int wrong = 0;
-    for (int seed = 1; seed <= RUNS; seed++) {
+    for (int seed = first; seed <= last; seed++) {
       ModelTest run = new ModelTest(seed);
       if (!run.isRight(seed)) wrong++;
     }
-    System.out.println(RUNS + " runs beside the model, " + wrong + " wrong");
+    System.out.println(last - first + 1 + " runs beside the model, " + wrong + " wrong");
     if (wrong != 0) System.exit(1);
   }
 
