@@ -286,6 +286,9 @@ public final class PromisesTest {
     VeiledTable x = of(3, "deal 0; deal 1; ask 0 2");
     // Behind two: 0 1, 0 2, 1 0, 1 2, 2 0, 2 1. Player 1 with card 2: ways 1 and 3.
     due.is("world(1, 2, 67, 0)", x.world(1, 2, 67, 0), 1);
+    due.is("the first of all", x.world(0, 2, 72, 0), 0);
+    due.is("the last of all", x.world(2, 2, 64, 5), 5);
+    due.is("behind the last of all", x.world(2, 2, 64, 6), PLACE);
     due.is("world(1, 2, 67, 1)", x.world(1, 2, 67, 1), 3);
     due.is("world(1, 2, 67, 2)", x.world(1, 2, 67, 2), PLACE);
     due.is("world(1, 2, 67, -1)", x.world(1, 2, 67, -1), PLACE);
@@ -532,7 +535,10 @@ public final class PromisesTest {
     VeiledTable y = of(3, "ask 0 3");
     y.rule(2, 1, 0, 0, 1, 0, 1);
     y.rule(3, 0, 1, 0, 1, 0, 1);
-    for (int n = 0; n < 2; n++) due.is("tests of a stage that isn't there", y.ruleOf(n, 2), 0);
+    y.rule(2, 0, 1, 0, 1, 0, 1);
+    y.rule(0, 0, 1, 0, 1, 2, 1);
+    y.rule(0, 1, 0, 0, 1, 2, 1);
+    for (int n = 0; n < 5; n++) due.is("rule " + n + " of a stage that isn't there", y.ruleOf(n, 2), 0);
   }
 
   private static void promise23() {
@@ -616,6 +622,11 @@ public final class PromisesTest {
     y.raise(1000000000);
     due.is("stake 10^18", y.mean(1, 0), 4000000000000000000L);
     due.is("below", y.mean(1, 1), 3);
+    y.image();
+    y.raise(3);
+    due.is("3 * 10^18", y.mean(1, 0), 4000000000000000000L);
+    due.is("below", y.mean(1, 1), 1);
+    y.back();
     y.raise(2);
     due.is("8 * 10^18", y.mean(1, 0), 8000000000000000000L);
     y.raise(2);
@@ -723,6 +734,7 @@ public final class PromisesTest {
     full.unplan();
     for (int n = 0; n < 39; n++) full.plan(2, 4, full.setOf(2, n, 1), 1);
     full.plan(0, 1, 9, 1);
+    due.is("a plan of 0 for it is told as 0", full.plan(0, 1, 10, 0), FULL);
     due.is("41 would be", full.better(0), FULL);
     due.is("nothing changed", full.setOf(0, 0, 3), 1);
     due.is("count(2)", full.count(2), 40);
@@ -756,6 +768,8 @@ public final class PromisesTest {
     VeiledTable much = of(5, "ask 0 2; veil 1 2; deal 2; toss 2; ask 2 2");
     much.rule(1, 0, 1, 0, 1, 0, 6);
     due.is("much of any", much.settled(), MUCH);
+    due.is("much of player 0", of(5, "deal 0; toss 2; ask 0 2").settled(), MUCH);
+    due.is("much of player 1", of(5, "deal 1; toss 2; ask 1 2").settled(), MUCH);
   }
 
   private static void promise29() {
@@ -840,9 +854,11 @@ public final class PromisesTest {
       "ask 0", "ask 0 1", "ask 0 4", "ask 0 22", "ask 02", "ask 0 2 2", "veil 3 2", "show", "show 3", "forget 0;;", "toss 2 2", "toss 9",
       "turn 0", "turn turn", "dealt 0", "Deal 0", "deal 0,", "deal 0 ;9", "a", "tos", "turn;turn;turn;turn", "turn;turn;deal 0;deal 0",
       "toss 2;toss 2;toss 2;toss 2;toss 2;toss 2;toss 2", "toss 2;toss 2;toss 2;toss 2;toss 2;toss 2;tos", "deal 0\n", "deal 0\u00e4", "\u00ff", "deal\t0",
-      "deal 0:", "deal 0/", "deal`0", "deal{0", "peek 1 3; ask 1 3; show 1 3"};
+      "deal 0:", "deal 0/", "deal`0", "deal{0", "peek 1 3; ask 1 3; show 1 3",
+      "xeal 0", "dealz 0", "deal 19", "\u00e4eal 0", "peep 1 2", "tossed 2", "aask 0 2", "z"};
     int[] faults = {0, 1, 0, 4, 5, 5, 5, 5, -1, 7, 7, 5, 5, 5, 6, 6, 6, 6, 8, 5, 4, 5, 9, 7, 5, 5, 5, 0, 0, 6, 8, 0, 0, 15, 17,
-      42, 42, 6, 6, 0, 4, 6, 6, 4, 4, 26};
+      42, 42, 6, 6, 0, 4, 6, 6, 4, 4, 26,
+      0, 0, 5, 0, 0, 0, 0, 0};
     for (int n = 0; n < texts.length; n++) {
       if (faults[n] >= 0) faulty(x, texts[n], faults[n]);
       else due.is(texts[n], read(x, texts[n]), 1);
@@ -930,9 +946,9 @@ public final class PromisesTest {
     due.is("the first place is empty", x.build(0), 0);
     due.is("count(1)", x.count(1), 0);
     VeiledTable y = of(5, "toss 2");
-    y.rack(0, 6);
-    for (int i = 0; i < 6; i++) y.lay(0, i, 0);
-    due.is("six", y.build(0), 6);
+    y.rack(1, 6);
+    for (int i = 0; i < 6; i++) y.lay(1, i, 0);
+    due.is("six", y.build(1), 6);
     due.is("ways(6)", y.ways(6), 64);
   }
 
@@ -946,6 +962,7 @@ public final class PromisesTest {
     due.is("its own", x.maybe(0, 0, 2, 8 * 12, 0), 1);
     due.is("read(0, 3)", x.read(0, 3), 1);
     due.is("read(0, 4)", x.read(0, 4), 0);
+    due.is("of the first way alone", x.maybe(1, 0, 1, 9, 0), 1);
     due.is("not by plans alone", x.maybe(3, 1, 3, 8 * 8 * 8 + 8 + 2, 2), 1);
     due.is("read(3, 1)", x.read(3, 1), 1);
     due.is("no such view", x.maybe(3, 1, 3, 0, 2), 0);
@@ -1198,6 +1215,8 @@ public final class PromisesTest {
     x.worth(3, -1);
     x.plan(1, 1, 12, 1);
     x.plan(1, 1, 9, 1);
+    x.unrule();
+    x.rule(1, 0, 1, 2, 0, 0, 9);
     x.rule(0, 0, 0, 0, 1, 0, 9);
     x.raise(5);
     x.drop();
@@ -1220,6 +1239,8 @@ public final class PromisesTest {
       due.is("a worth, a rule, a stake", x.pay(1, 11), 2 * 7 * 6);
       due.is("a worth", x.worth(3, 0), 7);
       x.pack(1);
+      x.stage(ASK, 2, 2);
+      x.plan(2, 0, 1, 1);
     }
     due.is("the rack is not kept", x.build(0), 0);
     due.is("nor the sheet", x.read(0, 0), 0);
