@@ -245,7 +245,7 @@ public final class PromisesTest {
   private static void promise11() {
     due.part("promise 11");
     VeiledTable x = of(3, "deal 0; ask 1 2; forget 0; peek 2 3");
-    // Way 29 is 2, 1, 0, 2; way 2 is 0, 0, 0, 2.
+    // Way 17 is 2, 1, 0, 2; way 2 is 0, 0, 0, 2.
     int[] of0 = {1, 11, 90, 513, 4104}, of1 = {1, 8, 66, 529, 4232}, of2 = {1, 8, 66, 529, 4235};
     due.is("ways(4)", x.ways(4), 18);
     for (int j = 0; j <= 4; j++) {
@@ -562,7 +562,7 @@ public final class PromisesTest {
     VeiledTable x = of(3, "turn; ask 0 2");
     x.rule(0, 0, 0, 0, 1, 2, 2);
     x.rule(2, 0, 1, 1, 2, 0, -5);
-    // Way 4: card 2, number 0. Rule 0: is 1 there? y is 0 too: 2 times nothing.
+    // Way 4: card 2, number 0. X and Y of the first rule are both the card: 2 times nothing.
     due.is("pay(0, 4)", x.pay(0, 4), 0);
     due.is("pay(1, 4)", x.pay(1, 4), 5);
     due.is("pay(2, 4)", x.pay(2, 4), -5);
@@ -722,7 +722,7 @@ public final class PromisesTest {
     VeiledTable much = of(5, "deal 0; toss 2; ask 0 2");
     due.is("2^10", much.better(0), MUCH);
     due.is("count(2)", much.count(2), 0);
-    // 39 plans of player 2, and 2 sets of player 0, one of which is told.
+    // Player 0 has two sets, one of which is told; plans of player 2 leave room for the other, or don't.
     VeiledTable full = of(5, "toss 2; ask 0 2; deal 2; peek 2 2; veil 2 3");
     int sets = full.sets(2);
     due.is("sets of 2", sets, 40);
