@@ -39,6 +39,7 @@ public final class EdgesOfHandsTest {
     asView();
     image();
     back();
+    backToOthers();
     count();
     edges.end("EdgesOfHandsTest", 30, 46);
   }
@@ -161,6 +162,11 @@ public final class EdgesOfHandsTest {
           edges.is("what comes of it", x.count(1), fault < 0 ? 1 : 0);
           if (fault < 0) edges.is("its kind, player, k", x.stageOf(0, 0) * 100 + x.stageOf(0, 1) * 10 + x.stageOf(0, 2), kind * 100 + p * 10 + k);
         }
+      }
+      for (int at = 0; at < words[kind].length(); at++) {
+        char other = words[kind].charAt(at) == 'z' ? 'a' : (char) (words[kind].charAt(at) + 1);
+        String word = words[kind].substring(0, at) + other + words[kind].substring(at + 1);
+        edges.is("another WORD: " + word, Scenes.read(new VeiledTable(), word + " 0 2"), -100);
       }
       edges.is("an end of the word", Scenes.read(new VeiledTable(), words[kind].substring(1) + " 0 2"), -100);
       edges.is("a beginning of the word", Scenes.read(new VeiledTable(), words[kind].substring(0, words[kind].length() - 1) + " 0 2"), -100);
@@ -344,6 +350,9 @@ public final class EdgesOfHandsTest {
       for (int view : new int[] {0, 8, -9, 8 + m + 1, LEAST, MOST}) edges.is("no such view", x.maybe(3, 0, 1, view, 0), 0);
       for (int e = 0; e < 5; e++) edges.is("all no", x.read(3, e), 0);
     }
+    VeiledTable two = of(3, "deal 0;deal 1");
+    edges.is("who has card 0: the other hasn't", two.maybe(3, 0, 2, 72, 1), 2);
+    for (int e = 0; e < 5; e++) edges.is("card " + e, two.read(3, e), e == 1 || e == 2 ? 1 : 0);
     VeiledTable x = Scenes.busy();
     edges.is("in ways that aren't played too", x.maybe(1, 2, 2, 65, 0), 4);
     edges.is("what was a row of forty ints has five places", x.read(1, 5), PLACE);
@@ -631,6 +640,42 @@ public final class EdgesOfHandsTest {
     edges.is("nor racks", x.build(0), 2);
     edges.is("nor the tape", x.feed(1, 0), 4);
     edges.is("it stays for later", x.back(), 4);
+  }
+
+  private static void backToOthers() {
+    edges.of(45, "All that it keeps is as in THE IMAGE");
+    VeiledTable x = of(3, "toss 3;ask 0 3;ask 1 2");
+    for (int n = 0; n < 3; n++) x.plan(0, 1, 9 + n, 2 - n);
+    x.plan(1, 2, 8 * 9 + 3, 1);
+    x.worth(2, 4);
+    x.rule(1, 0, 1, 0, 1, 1, 3);
+    x.rule(0, 0, 1, 1, 2, 2, 5);
+    x.rule(4, 0, 0, 2, 0, 3, 7);
+    x.raise(3);
+    x.image();
+    // All that was kept becomes something else, in the same places.
+    x.pack(5);
+    Scenes.read(x, "deal 2;veil 2 2;peek 1 3;ask 1 3;show 2");
+    for (int n = 0; n < 5; n++) x.plan(2, 1, 9 + n, 1);
+    for (int n = 0; n < 4; n++) x.rule(0, 0, 0, 2, 1, 0, 50 + n);
+    for (int card = 0; card < 5; card++) x.worth(card, -1);
+    x.raise(1000);
+    edges.is("back()", x.back(), 3);
+    int[][] stages = {{TOSS, 0, 3, 7}, {ASK, 0, 3, 7}, {ASK, 1, 2, 7}};
+    for (int i = 0; i < 3; i++) for (int what = 0; what < 4; what++) edges.is("stage " + i, x.stageOf(i, what), stages[i][what]);
+    for (int n = 0; n < 3; n++) edges.is("plan " + n, x.setOf(0, n, 3), 2 - n);
+    edges.is("the plan of 1", x.setOf(1, 2, 3), 1);
+    edges.is("no others", x.unplan(), 4);
+    // The last way: 2, 2, 1.
+    edges.are("rules", new int[] {x.ruleOf(0, 17), x.ruleOf(1, 17), x.ruleOf(2, 17), x.ruleOf(3, 17)}, 12, 0, 0, BAD);
+    // The first: 0, 0, 0. And 0, 2, 0: 5 * (0 - 2) from 1 to 2, and 3 * 0 + 7 from 2 to 0.
+    edges.are("rules", new int[] {x.ruleOf(0, 0), x.ruleOf(1, 0), x.ruleOf(2, 0)}, 0, 0, 0);
+    edges.are("rules", new int[] {x.ruleOf(0, 4), x.ruleOf(1, 4), x.ruleOf(2, 4)}, 0, -10, 7);
+    edges.are("who pays", new int[] {(int) x.pay(0, 4), (int) x.pay(1, 4), (int) x.pay(2, 4)}, 21, 30, -51);
+    edges.are("who pays", new int[] {(int) x.pay(0, 17), (int) x.pay(1, 17), (int) x.pay(2, 17)}, -36, 36, 0);
+    edges.is("the stake", x.count(4), 3);
+    int[] worths = {0, 0, 4, BAD};
+    for (int card = 0; card < 4; card++) edges.is("worth of card " + card, x.worth(card, 0), worths[card]);
   }
 
   private static void count() {

@@ -32,6 +32,8 @@ public final class EdgesOfPlansTest {
     meanIsMuch();
     reply();
     replyIsMuch();
+    replyAtMost();
+    replyOfAnother();
     better();
     betterRefused();
     settled();
@@ -394,6 +396,54 @@ public final class EdgesOfPlansTest {
     edges.refusedLong(() -> of(5, "deal 0;turn;ask 0 3;ask 0 3;veil 0 3;ask 0 2"), "800 sets", x -> x.reply(0, 0), MUCH);
     edges.refusedLong(() -> of(5, "deal 0;toss 2;peek 0 2;peek 0 2;ask 0 2"), "2^40", x -> x.reply(0, 0), MUCH);
     edges.is("2^40 of player 0 alone", of(5, "deal 0;toss 2;peek 0 2;peek 0 2;ask 0 2;ask 1 2").reply(1, 1), 1);
+  }
+
+  private static int[] chosen(VeiledTable x, int p) {
+    int[] all = new int[x.sets(p)];
+    for (int n = 0; n < all.length; n++) all[n] = x.setOf(p, n, 3);
+    return all;
+  }
+
+  private static void replyAtMost() {
+    edges.of(Edges.TERMS, "the greatest MEAN of that one by any PLANS for all its SETS");
+    // Nine sets of two: paid is what makes the last toss and the choice odd together.
+    VeiledTable nine = of(3, "toss 3;toss 3;ask 0 2");
+    nine.rule(3, 1, 2, 2, 0, 0, 0);
+    nine.rule(4, 0, 0, 2, 0, 0, 7);
+    edges.is("nine sets: always", nine.reply(0, 0), 7);
+    edges.is("those that choose 1", nine.better(0), 6);
+    edges.are("the choices", chosen(nine, 0), 1, 0, 1, 1, 0, 1, 1, 0, 1);
+    // One set, and eight: of these the four that its choice leads to matter, in which even is paid.
+    VeiledTable two = of(3, "ask 0 2;peek 0 2;toss 2;veil 0 2");
+    two.rule(0, 0, 1, 2, 0, 2, 4);
+    two.rule(3, 2, 3, 2, 0, 0, 7);
+    edges.is("4 times 1 less a half, and 7", two.reply(0, 0), 9);
+    edges.is("three choose 1", two.better(0), 3);
+    edges.are("where it doesn't come to, the least", chosen(two, 0), 1, 0, 0, 0, 0, 0, 1, 0, 1);
+    // Six sets of three, what was ahead forgotten between: like the toss each time, and like one another.
+    VeiledTable six = of(3, "toss 3;veil 0 3;forget 0;toss 3;ask 0 3");
+    six.rule(1, 0, 1, 2, 0, 0, 6);
+    six.rule(1, 3, 4, 2, 0, 0, 3);
+    six.rule(1, 1, 4, 2, 0, 0, 3);
+    edges.is("6, 3, and 3 in one of three", six.reply(0, 0), 10);
+    edges.is("by 1", six.reply(0, 1), 1);
+    edges.is("four choose 1 or 2", six.better(0), 4);
+    edges.are("the choices", chosen(six, 0), 0, 1, 2, 0, 1, 2);
+    edges.is("that is its mean", six.mean(0, 0), 10);
+  }
+
+  private static void replyOfAnother() {
+    edges.of(26, "REPLY (without STAKE).");
+    VeiledTable x = of(3, "toss 3;ask 0 2");
+    x.rule(0, 0, 0, 1, 0, 0, 50);
+    edges.is("of a game", x.reply(0, 0), 50);
+    edges.is("it rests", x.settled(), 1);
+    x.pack(3);
+    x.stage(ASK, 0, 2);
+    x.rule(1, 0, 0, 1, 0, 0, 1);
+    edges.is("of a smaller one, nothing is left of the first", x.reply(0, 0), 1);
+    edges.is("nor for others", x.reply(1, 0), -1);
+    edges.is("it rests too", x.settled(), 1);
   }
 
   private static void better() {

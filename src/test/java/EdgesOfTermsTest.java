@@ -418,6 +418,8 @@ public final class EdgesOfTermsTest {
     edges.is("only the last of three forgets", of(3, "ask 0 2;ask 0 2;forget 0;ask 0 2").recalls(0), 0);
     edges.is("forgets behind its last choice", of(3, "ask 0 2;ask 0 2;forget 0").recalls(0), 1);
     edges.is("what was chosen last is known, what first not", of(3, "veil 0 2;forget 0;veil 1 2;show 1;veil 0 2").recalls(0), 0);
+    edges.is("what can't be otherwise is not lost: the card that isn't turned up", of(2, "turn;deal 0;ask 0 2;forget 0;show 1;ask 0 2").recalls(0), 1);
+    edges.is("it is, if there are two others", of(3, "turn;deal 0;ask 0 2;forget 0;show 1;ask 0 2").recalls(0), 0);
     edges.is("of ways with one card alone nothing is lost", of(1, "deal 0;ask 1 2;forget 0;ask 0 2").recalls(0), 1);
   }
 
@@ -451,9 +453,11 @@ public final class EdgesOfTermsTest {
     x.stage(VEIL, 0, 3);
     edges.is("back as a veil", x.setOf(0, 0, 3), 2);
     edges.is("another view", x.setOf(0, 1, 3), 0);
-    x.drop();
-    x.stage(ASK, 1, 3);
-    edges.is("another player", x.setOf(1, 0, 3), 0);
+    for (int p = 1; p < 3; p++) {
+      x.drop();
+      x.stage(ASK, p, 3);
+      edges.is("another player", x.setOf(p, 0, 3), 0);
+    }
     x.drop();
     x.drop();
     x.stage(PEEK, 0, 2);

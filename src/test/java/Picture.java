@@ -1,6 +1,6 @@
 /**
  * All that can be found out about a table, as a text: first by what only asks, then by using it up. Two tables that
- * are alike have like pictures. It takes some 330 calls.
+ * are alike have like pictures. It takes some 330 calls at most.
  */
 final class Picture {
   private final VeiledTable x;
@@ -33,7 +33,8 @@ final class Picture {
   }
 
   private void stages() {
-    for (int i = 0; i < x.count(1); i++) note("stage", x.stageOf(i, 0), x.stageOf(i, 1), x.stageOf(i, 2), x.stageOf(i, 3));
+    long n = x.count(1);
+    for (int i = 0; i < n; i++) note("stage", x.stageOf(i, 0), x.stageOf(i, 1), x.stageOf(i, 2), x.stageOf(i, 3));
   }
 
   private void game() {
@@ -46,7 +47,8 @@ final class Picture {
       int sets = Math.min(50, x.sets(p));
       for (int set = 0; set < sets; set++) note("chooses", x.setOf(p, set, 3));
     }
-    for (int rule = 0; rule < x.count(3); rule++) note("rule", x.ruleOf(rule, 0), x.ruleOf(rule, ways - 1));
+    long rules = x.count(3);
+    for (int rule = 0; rule < rules; rule++) note("rule", x.ruleOf(rule, 0), x.ruleOf(rule, ways - 1));
     note("pay", x.pay(0, ways - 1), x.pay(1, ways - 1), x.pay(2, ways - 1), x.mean(0, 0), x.mean(0, 1));
   }
 
@@ -57,9 +59,9 @@ final class Picture {
   }
 
   private void hands() {
-    int n = (int) x.count(1);
+    int last = x.ways((int) x.count(1)) - 1;
     for (int hand = 0; hand < 4; hand++) {
-      note("hand", x.asStage(hand, 2), x.asAmount(hand, 0), x.asAmount(hand, x.ways(n) - 1), x.asView(hand, 0, 0), x.asView(hand, 2, 2));
+      note("hand", x.asStage(hand, 2), x.asAmount(hand, 0), x.asAmount(hand, last), x.asView(hand, 0, 0), x.asView(hand, 2, 2));
       note("held", x.hold(hand, 0, 0));
     }
   }
@@ -77,7 +79,7 @@ final class Picture {
   }
 
   private void sizes() {
-    for (int card = 0; card < x.count(0); card++) note("worth", x.worth(card, 0));
+    worths();
     note("unplan", x.unplan());
     x.pack(1);
     x.stage(Scenes.TOSS, 0, 2);
@@ -88,8 +90,18 @@ final class Picture {
     note("image", x.back());
     counts();
     stages();
-    for (int p = 0; p < 2; p++) for (int set = 0; set < Math.min(16, x.sets(p)); set++) note("chooses", x.setOf(p, set, 3));
-    for (int rule = 0; rule < x.count(3); rule++) note("rule", x.ruleOf(rule, x.ways((int) x.count(1)) - 1));
-    for (int card = 0; card < x.count(0); card++) note("worth", x.worth(card, 0));
+    for (int p = 0; p < 2; p++) {
+      int sets = Math.min(16, x.sets(p));
+      for (int set = 0; set < sets; set++) note("chooses", x.setOf(p, set, 3));
+    }
+    long rules = x.count(3);
+    int last = x.ways((int) x.count(1)) - 1;
+    for (int rule = 0; rule < rules; rule++) note("rule", x.ruleOf(rule, last));
+    worths();
+  }
+
+  private void worths() {
+    long cards = x.count(0);
+    for (int card = 0; card < cards; card++) note("worth", x.worth(card, 0));
   }
 }

@@ -860,9 +860,8 @@ public final class PromisesTest {
       42, 42, 6, 6, 0, 4, 6, 6, 4, 4, 26,
       0, 0, 5, 0, 0, 0, 0, 0};
     for (int n = 0; n < texts.length; n++) {
-      if (faults[n] >= 0) faulty(x, texts[n], faults[n]);
-      else due.is(texts[n], read(x, texts[n]), 1);
-      x.pack(3);
+      if (faults[n] >= 0) faulty(new VeiledTable(), texts[n], faults[n]);
+      else due.is(texts[n], read(new VeiledTable(), texts[n]), 1);
     }
     x.pack(1);
     x.stage(TURN, 0, 0);
