@@ -1,11 +1,17 @@
+import java.io.IOException;
 import java.lang.reflect.Constructor;
 import java.lang.reflect.Field;
 import java.lang.reflect.Method;
 import java.lang.reflect.Modifier;
+import java.nio.charset.StandardCharsets;
+import java.nio.file.Files;
+import java.nio.file.Path;
 import java.util.ArrayList;
 import java.util.List;
 import java.util.Set;
 import java.util.TreeSet;
+import java.util.regex.Matcher;
+import java.util.regex.Pattern;
 
 /** The face is the document's, and nothing else of the class can be reached from outside. */
 public final class FaceTest {
@@ -24,7 +30,7 @@ public final class FaceTest {
   private static final int MOST_FIELDS = 20;
   private static final Due due = new Due();
 
-  public static void main(String[] args) throws IllegalAccessException {
+  public static void main(String[] args) throws IllegalAccessException, IOException {
     Class<?> face = VeiledTable.class;
     due.part("face");
     due.isSo("it is public and final", Modifier.isPublic(face.getModifiers()) && Modifier.isFinal(face.getModifiers()));
@@ -40,7 +46,40 @@ public final class FaceTest {
     }
     inside.add(face);
     for (Class<?> c : inside) sizes(c);
+    String document = Files.readString(Path.of("../shared/DOC.md"), StandardCharsets.UTF_8);
+    String source = Files.readString(Path.of("src/main/java/VeiledTable.java"), StandardCharsets.UTF_8);
+    inTheDocumentsOrder(document, source);
+    wordsAheadOfGroups(document, source);
     due.end("FaceTest");
+  }
+
+  /** Constants, and calls with the names of their arguments, in the document's order. */
+  private static void inTheDocumentsOrder(String document, String source) {
+    Matcher block = Pattern.compile("```java\n(.*?)\n```", Pattern.DOTALL).matcher(document);
+    due.isSo("the document tells the face", block.find());
+    int at = 0;
+    int lines = 0;
+    for (String line : block.group(1).split("\n")) {
+      if (line.equals("}")) continue;
+      String wanted = line.trim().replaceAll("\\);$", ") {");
+      int found = source.indexOf(wanted, at);
+      due.isSo("the source has, behind those ahead: " + wanted, found >= at);
+      at = Math.max(at, found);
+      lines++;
+    }
+    // The head of the class, two lines of constants, the constructor.
+    due.is("lines of the face", lines, FACE.length + 4);
+  }
+
+  private static void wordsAheadOfGroups(String document, String source) {
+    Matcher groups = Pattern.compile("Ahead of the calls `(\\w+)`[^\n]* the interface says: (---- [^\n]*)\\.").matcher(document);
+    int many = 0;
+    while (groups.find()) {
+      Pattern wanted = Pattern.compile("  // " + Pattern.quote(groups.group(2)) + "\n\n  public \\w+ " + groups.group(1) + "\\(");
+      due.isSo("ahead of " + groups.group(1) + " it says " + groups.group(2), wanted.matcher(source).find());
+      many++;
+    }
+    due.is("groups of calls", many, 6);
   }
 
   private static void methods(Class<?> face) {
