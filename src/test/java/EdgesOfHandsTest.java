@@ -19,20 +19,24 @@ public final class EdgesOfHandsTest {
     text();
     tokens();
     statements();
+    statementsInARow();
     faultAtToken();
     faultForRoom();
     faultAtEnd();
     nothingComesOfAFault();
+    racksAtFirst();
     rack();
     lay();
     build();
     buildEnds();
     maybe();
+    rowsOfSheets();
     sheet();
     cell();
     read();
     loadPlans();
     loadPlansEnds();
+    handsAtFirst();
     hold();
     asStage();
     asAmount();
@@ -174,6 +178,23 @@ public final class EdgesOfHandsTest {
     }
   }
 
+  private static void statementsInARow() {
+    edges.of(TERMS, "TEXT: STATEMENT { ; STATEMENT }.");
+    edges.is("one", Scenes.read(new VeiledTable(), "turn"), 1);
+    edges.is("two", Scenes.read(new VeiledTable(), "turn;turn"), 2);
+    edges.is("none", Scenes.read(new VeiledTable(), ""), -100);
+    edges.is("one ahead of it", Scenes.read(new VeiledTable(), ";turn"), -100);
+    edges.is("one behind it", Scenes.read(new VeiledTable(), "turn;"), -105);
+    edges.is("two between", Scenes.read(new VeiledTable(), "turn;;turn"), -105);
+    edges.is("none between", Scenes.read(new VeiledTable(), "turn turn"), -105);
+    edges.is("none between, behind a number", Scenes.read(new VeiledTable(), "toss 2 turn"), -107);
+    VeiledTable x = new VeiledTable();
+    x.pack(5);
+    edges.is("as many as there can be", Scenes.read(x, "deal 2;forget 2;peek 1 3;show 1;veil 0 2;turn"), 6);
+    int[][] stages = {{DEAL, 2, 0}, {FORGET, 2, 0}, {PEEK, 1, 3}, {SHOW, 1, 0}, {VEIL, 0, 2}, {TURN, 0, 0}};
+    for (int i = 0; i < 6; i++) for (int what = 0; what < 3; what++) edges.is("in order: stage " + i, x.stageOf(i, what), stages[i][what]);
+  }
+
   private static void faultAtToken() {
     edges.of(TERMS, "FAULT: the first byte of the first TOKEN that can't stand there");
     String[] texts = {";", "0", "2 deal", "deal deal 0", "deal ;0", "deal turn", "turn turn", "turn 0", "turn toss 2", "ask 0 ask", "ask 0 ;", "ask ; 2",
@@ -235,6 +256,26 @@ public final class EdgesOfHandsTest {
   }
 
   // ---- racks
+
+  private static void racksAtFirst() {
+    edges.of(TERMS, "RACKS 0, 1 are rows of 0 .. 6 places for STAGES, or missing (at first).");
+    for (int r = 0; r < 2; r++) {
+      VeiledTable x = of(3, "turn;toss 2");
+      edges.is("missing at first", x.build(r), NOTHING);
+      edges.is("it has no places", x.lay(r, 0, 0), NOTHING);
+      edges.is("none above six", x.rack(r, 7), BAD);
+      edges.is("still missing", x.build(r), NOTHING);
+      edges.is("six", x.rack(r, 6), 1);
+      for (int i = 0; i < 6; i++) edges.is("place " + i, x.lay(r, i, 1), 1);
+      edges.is("no seventh", x.lay(r, 6, 1), PLACE);
+      edges.is("all six", x.build(r), 6);
+      edges.is("none", x.rack(r, 0), 1);
+      edges.is("it is there, without places", x.lay(r, 0, 0), PLACE);
+      edges.is("the other is missing", x.build(1 - r), NOTHING);
+    }
+    edges.is("there is no rack -1", new VeiledTable().rack(-1, 1), BAD);
+    edges.is("nor rack 2", new VeiledTable().rack(2, 1), BAD);
+  }
 
   private static void rack() {
     edges.of(32, "A RACK becomes a row of n (0 .. 6) empty places, or missing (n -9): 1. BAD: r, n above 6; SIZE: n below 0 (but -9).");
@@ -362,6 +403,25 @@ public final class EdgesOfHandsTest {
     edges.is("it is there", x.read(2, 0), 1);
   }
 
+  private static void rowsOfSheets() {
+    edges.of(TERMS, "SHEETS 0 .. 3 are rows of at most 40: of sort 0 yes or no (1, 0), 1 ints");
+    for (int s = 0; s < 4; s++) {
+      VeiledTable x = new VeiledTable();
+      for (int sort = 0; sort < 2; sort++) {
+        edges.is("forty", x.sheet(s, sort, 40), 1);
+        edges.is("no more", x.sheet(s, sort, 41), BAD);
+        for (int v : new int[] {LEAST, -1, 0, 1, 2, MOST}) {
+          edges.is("the last", x.cell(s, 39, v), 1);
+          edges.is("v of sort " + sort, x.read(s, 39), sort == 1 ? v : v == 0 ? 0 : 1);
+        }
+        edges.is("none behind it", x.read(s, 40), PLACE);
+        for (int other = 0; other < 4; other++) if (other != s) edges.is("another", x.read(other, 0), NOTHING);
+      }
+    }
+    edges.is("there is no sheet -1", new VeiledTable().sheet(-1, 0, 1), BAD);
+    edges.is("nor sheet 4", new VeiledTable().sheet(4, 0, 1), BAD);
+  }
+
   private static void sheet() {
     edges.of(36, "A SHEET becomes a row of n of a sort, all no, 0, or missing (sort -1; n doesn't matter): 1. BAD: s, sort, n above 40; SIZE: n below 0.");
     for (int s : new int[] {-1, 4, LEAST, MOST}) edges.refused(Scenes::busy, "sheet(" + s + ", 0, 1)", x -> x.sheet(s, 0, 1), BAD);
@@ -485,6 +545,30 @@ public final class EdgesOfHandsTest {
   }
 
   // ---- hands
+
+  private static void handsAtFirst() {
+    edges.of(TERMS, "HANDS 0 .. 3 each hold nothing (sort 0; at first), a STAGE (1; as it was)");
+    for (int hand = 0; hand < 4; hand++) {
+      VeiledTable x = of(3, "veil 2 3;toss 2");
+      edges.is("no stage", x.asStage(hand, 2), NOTHING);
+      edges.is("no amount", x.asAmount(hand, 0), NOTHING);
+      edges.is("no view", x.asView(hand, 0, 0), NOTHING);
+      edges.is("held nothing", x.hold(hand, 1, 0), 0);
+      edges.is("a veil", x.asStage(hand, 0), VEIL);
+      for (int other = 0; other < 4; other++) if (other != hand) edges.is("another", x.asStage(other, 2), NOTHING);
+      x.drop();
+      x.drop();
+      edges.is("as it was: the stage is gone", x.asStage(hand, 0), VEIL);
+      x.stage(PEEK, 1, 2);
+      edges.is("as it was: another has its number", x.asStage(hand, 0), VEIL);
+      x.pack(1);
+      edges.is("as it was: the pack is new", x.asStage(hand, 0), VEIL);
+      edges.is("held a stage", x.hold(hand, 0, 0), 1);
+      edges.is("nothing again", x.asStage(hand, 2), NOTHING);
+    }
+    edges.is("there is no hand -1", new VeiledTable().hold(-1, 0, 0), BAD);
+    edges.is("nor hand 4", new VeiledTable().hold(4, 0, 0), BAD);
+  }
 
   private static void hold() {
     edges.of(40, "A HAND holds nothing (sort 0; v doesn't matter), STAGE v (1), the amount of RULE v (2), the VIEW v (3): which sort it held. BAD.");

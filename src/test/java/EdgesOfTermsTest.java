@@ -12,14 +12,17 @@ public final class EdgesOfTermsTest {
   public static void main(String[] args) throws IOException {
     edges = new Edges();
     fractions();
+    refusals();
     refusalsOfLongs();
     theFirstRefusalStands();
     theFirstRefusalStandsOfTheHost();
     whatIsAskedChangesNothing();
+    players();
     cards();
     stages();
     cardsComeOut();
     numbers();
+    numbersOfChance();
     whoSees();
     show();
     forget();
@@ -38,6 +41,7 @@ public final class EdgesOfTermsTest {
     missingStages();
     missingRules();
     pays();
+    means();
     replies();
     edges.end("EdgesOfTermsTest", TERMS, TERMS);
   }
@@ -83,6 +87,30 @@ public final class EdgesOfTermsTest {
     edges.is("mean: what cancels is 0", x.mean(1, 0), 0);
     edges.is("mean: 1 below 0", x.mean(1, 1), 1);
     edges.is("reply: 1 below 0", x.reply(1, 1), 1);
+  }
+
+  private static void refusals() {
+    edges.of(TERMS, "A call that is refused answers NONE (-1), BAD (-2), STATE (-3), FULL (-4), MUCH (-5), or by the host NOTHING (-11), PLACE (-12), KIND (-13), SIZE (-14)");
+    VeiledTable x = of(1, "turn;ask 0 2");
+    edges.is("NONE", VeiledTable.NONE, -1);
+    edges.is("a plan for no set", x.plan(0, 1, 8, 0), -1);
+    edges.is("BAD", VeiledTable.BAD, -2);
+    edges.is("a pack of none", x.pack(0), -2);
+    edges.is("STATE", VeiledTable.STATE, -3);
+    edges.is("a second card of one", x.stage(TURN, 0, 0), -3);
+    edges.is("FULL", VeiledTable.FULL, -4);
+    edges.is("a hundred and twenty-first byte", Scenes.full().feed(1, 0), -4);
+    edges.is("MUCH", VeiledTable.MUCH, -5);
+    edges.is("more than the greatest stake", Scenes.full().raise(2), -5);
+    edges.is("NOTHING", VeiledTable.NOTHING, -11);
+    edges.is("no rack", x.build(0), -11);
+    edges.is("PLACE", VeiledTable.PLACE, -12);
+    edges.is("a set behind the last", x.setOf(0, 1, 0), -12);
+    edges.is("KIND", VeiledTable.KIND, -13);
+    x.hold(0, 1, 0);
+    edges.is("a stage is no view", x.asView(0, 0, 0), -13);
+    edges.is("SIZE", VeiledTable.SIZE, -14);
+    edges.is("a row of less than none", x.sheet(0, 0, -1), -14);
   }
 
   private static void refusalsOfLongs() {
@@ -196,6 +224,37 @@ public final class EdgesOfTermsTest {
 
   // ---- part 1: the pack, stages, ways, views, sets
 
+  private static void players() {
+    edges.of(TERMS, "PLAYERS are 0, 1, 2.");
+    for (int p : new int[] {-1, 0, 1, 2, 3, 4, LEAST, MOST}) {
+      boolean isOne = p >= 0 && p <= 2;
+      for (int kind : new int[] {DEAL, ASK, VEIL, SHOW, FORGET, PEEK}) {
+        int k = kind == DEAL || kind == SHOW || kind == FORGET ? 0 : 3;
+        edges.is("a stage of kind " + kind + " of " + p, new VeiledTable().stage(kind, p, k), isOne ? 0 : BAD);
+      }
+      VeiledTable x = of(3, "turn;veil " + (isOne ? p : 0) + " 2");
+      x.sheet(0, 0, 0);
+      x.hold(0, 3, 1);
+      edges.is("view of " + p, x.view(p, 0, 1), isOne ? 9 : BAD);
+      edges.is("worlds of " + p, x.worlds(p, 0, 1), isOne ? 1 : BAD);
+      edges.is("world of " + p, x.world(p, 1, 9, 0), isOne ? 0 : BAD);
+      edges.is("odds of " + p, x.odds(p, 1, 9, 0, 0, 0), isOne ? 1 : NO + BAD);
+      edges.is("sets of " + p, x.sets(p), isOne ? 3 : BAD);
+      edges.is("a set of " + p, x.setOf(p, 0, 0), isOne ? 1 : BAD);
+      edges.is("recalls " + p, x.recalls(p), isOne ? 1 : BAD);
+      edges.is("a plan of " + p, x.plan(p, 1, 9, 1), isOne ? 0 : BAD);
+      edges.is("plans from a sheet of " + p, x.loadPlans(0, p), isOne ? 0 : BAD);
+      edges.is("pays " + p, x.rule(0, 0, 0, p, p == 0 ? 1 : 0, 0, 1), isOne ? 0 : BAD);
+      edges.is("is paid: " + p, x.rule(0, 0, 0, p == 0 ? 1 : 0, p, 0, 1), isOne ? 1 : BAD);
+      edges.is("pay of " + p, x.pay(p, 0), isOne ? 0 : NO + BAD);
+      edges.is("mean of " + p, x.mean(p, 1), isOne ? 1 : NO + BAD);
+      edges.is("reply of " + p, x.reply(p, 0), isOne ? 0 : NO + BAD);
+      edges.is("better " + p, x.better(p), isOne ? 1 : BAD);
+      edges.is("maybe for " + p, x.maybe(0, p, 1, 9, 0), isOne ? 1 : BAD);
+      edges.is("as a view of " + p, x.asView(0, p, 0), isOne ? 1 : BAD);
+    }
+  }
+
   private static void cards() {
     edges.of(TERMS, "THE PACK has CARDS 0 .. m - 1 (m 1 .. 5; 3 at first)");
     VeiledTable first = new VeiledTable();
@@ -289,6 +348,23 @@ public final class EdgesOfTermsTest {
     edges.are("all see them", seers(x, 1), 7);
     edges.is("a forget is seen by all", x.seen(1, 2), 7);
     edges.is("seen as 0 and 1 more", x.view(0, 0, 2), 8 * (8 + 1) + 1);
+  }
+
+  private static void numbersOfChance() {
+    edges.of(TERMS, "6 TOSS: a number below k (2 or 3), each alike likely; all see it. 7 PEEK: likewise; p sees it.");
+    for (int kind = TOSS; kind <= PEEK; kind++) {
+      for (int k = 0; k <= 4; k++) {
+        VeiledTable x = new VeiledTable();
+        boolean isRight = k == 2 || k == 3;
+        edges.is("kind " + kind + " with k " + k, x.stage(kind, 0, k), isRight ? 0 : BAD);
+        edges.is("ways", x.ways(isRight ? 1 : 0), isRight ? k : 1);
+        for (int e = 0; isRight && e < k; e++) {
+          edges.is("alike likely", x.chance(e, 1), k);
+          edges.is("by what all see", x.odds(1, 1, kind == TOSS ? 9 + e : 8, 0, e, 1), kind == TOSS ? 1 : k);
+          edges.is("by what 0 sees", x.odds(0, 1, 9 + e, 0, e, 1), 1);
+        }
+      }
+    }
   }
 
   private static void whoSees() {
@@ -667,6 +743,26 @@ public final class EdgesOfTermsTest {
     edges.is("in lowest terms", x.mean(0, 1), 1);
     edges.is("an amount is not", x.ruleOf(0, 0), 10);
     edges.is("nor a reply", x.reply(0, 0), -17);
+  }
+
+  private static void means() {
+    edges.of(TERMS, "PAY in each PLAYED WAY times its CHANCE, together");
+    edges.is("no rules, no stages", new VeiledTable().mean(2, 0), 0);
+    VeiledTable x = of(4, "turn;ask 0 3;peek 1 3");
+    // 1 is paid the card less what 1 has seen: 6 less 4 by four cards and three numbers.
+    x.rule(0, 0, 2, 0, 1, 2, 1);
+    edges.is("all cards and numbers", x.mean(1, 0), 1);
+    edges.is("with a twelfth each: 6 of 12", x.mean(1, 1), 2);
+    // And what 0 chooses times 4, where 0 chooses so: 2 for card 3 alone.
+    x.rule(0, 1, 3, 0, 1, 1, 4);
+    x.worth(2, 1);
+    edges.is("no way with 2 is played", x.mean(1, 1), 2);
+    x.plan(0, 1, 8 + 4, 2);
+    edges.is("three of twelve are: 6 and 12 of 12", x.mean(1, 0), 3);
+    edges.is("of 2", x.mean(1, 1), 2);
+    edges.is("0 pays it", x.mean(0, 0), -3);
+    edges.is("2 has no part", x.mean(2, 0), 0);
+    edges.is("for sure", x.mean(2, 1), 1);
   }
 
   private static void replies() {
